@@ -304,6 +304,12 @@ public final class PromiseTest {
         due("6: a file at depth 5", x.move(6, 2, 7), 0);
         due("6: its path", x.path(6), ((((2 * 9 + 2) * 9 + 6) * 9) + 1) * 9 + 8);
         due("6: entries", x.entries(), 9);
+        TreeHasher y = chain(4, 0);
+        due("6: other", y.directory(0, 1), 5);
+        due("6: other", y.directory(5, 1), 6);
+        due("6: too deep", y.move(1, 6, 0), -6);
+        due("6: less deep", y.remove(4), 1);
+        due("6: what was removed has no depth", y.move(1, 6, 0), 0);
     }
 
     private static void kindAndContent() {
@@ -615,6 +621,19 @@ public final class PromiseTest {
         y.file(0, 5, 0);
         y.save(0);
         due("19: 0 stands twice", y.repeated(0), 0);
+        TreeHasher z = new TreeHasher();
+        z.file(0, 0, 6);
+        z.file(0, 1, 6);
+        z.file(0, 2, -6);
+        z.file(0, 3, -6);
+        z.save(0);
+        due("19: two pairs", z.repeated(0), -6);
+        z.remove(4);
+        z.save(0);
+        due("19: the first paths", z.repeated(0), 6);
+        z.remove(2);
+        z.save(0);
+        due("19: nothing left of an earlier save", z.repeated(0), 0);
     }
 
     private static void questionsChangeNothing() {
