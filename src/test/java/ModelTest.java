@@ -6,11 +6,9 @@ import java.util.TreeMap;
 import java.util.TreeSet;
 
 /** Long runs of calls, the same each time, against a plain model built another way: of nodes and maps. */
-public final class ModelTest {
+public final class ModelTest extends Checks {
     private static final int RUNS = 600;
     private static final int CALLS = 512;
-    private static final int SHOWN = 20;
-    private static int wrong = 0;
     // Which refusals the runs have met: a run that never meets one says nothing of it.
     private static final TreeSet<String> met = new TreeSet<>();
 
@@ -227,11 +225,9 @@ public final class ModelTest {
         }
     }
 
-    private static void due(String call, long got, long want) {
+    private static void compare(String call, long got, long want) {
         met.add(call.substring(0, call.indexOf('(')) + (want < 0 && want >= -6 ? " " + want : " done"));
-        if (got == want) return;
-        wrong++;
-        if (wrong <= SHOWN) System.out.println(call + " answered " + got + ", due is " + want);
+        due(call, got, want);
     }
 
     private final Random random;
@@ -269,7 +265,7 @@ public final class ModelTest {
     }
 
     private int aContent() {
-        int[] contents = {0, 1, -1, 2, Integer.MIN_VALUE, Integer.MAX_VALUE};
+        int[] contents = {0, 1, -1, 2, LEAST, MOST};
         return contents[random.nextInt(contents.length)];
     }
 
@@ -291,19 +287,19 @@ public final class ModelTest {
         int s = aSnapshot();
         int which = random.nextInt(24 + removals);
         if (which < 8) {
-            due("directory(" + p + ", " + n + ")" + run, x.directory(p, n), model.make(p, n, false, 0));
+            compare("directory(" + p + ", " + n + ")" + run, x.directory(p, n), model.make(p, n, false, 0));
         } else if (which < 14) {
-            due("file(" + p + ", " + n + ", " + c + ")" + run, x.file(p, n, c), model.make(p, n, true, c));
+            compare("file(" + p + ", " + n + ", " + c + ")" + run, x.file(p, n, c), model.make(p, n, true, c));
         } else if (which < 16) {
-            due("write(" + e + ", " + c + ")" + run, x.write(e, c), model.write(e, c));
+            compare("write(" + e + ", " + c + ")" + run, x.write(e, c), model.write(e, c));
         } else if (which < 21) {
-            due("move(" + e + ", " + p + ", " + n + ")" + run, x.move(e, p, n), model.move(e, p, n));
+            compare("move(" + e + ", " + p + ", " + n + ")" + run, x.move(e, p, n), model.move(e, p, n));
         } else if (which < 23) {
-            due("save(" + s + ")" + run, x.save(s), model.save(s));
+            compare("save(" + s + ")" + run, x.save(s), model.save(s));
         } else if (which < 24) {
-            due("restore(" + s + ")" + run, x.restore(s), model.restore(s));
+            compare("restore(" + s + ")" + run, x.restore(s), model.restore(s));
         } else {
-            due("remove(" + e + ")" + run, x.remove(e), model.remove(e));
+            compare("remove(" + e + ")" + run, x.remove(e), model.remove(e));
         }
     }
 
@@ -315,16 +311,16 @@ public final class ModelTest {
         int i = random.nextInt(28) - 2;
         int p = aPath();
         switch (random.nextInt(7)) {
-            case 0: due("lookup(" + p + ")" + run, x.lookup(p), model.lookup(p)); break;
-            case 1: due("differing(" + a + ", " + b + ")" + run, x.differing(a, b), model.differing(a, b)); break;
+            case 0: compare("lookup(" + p + ")" + run, x.lookup(p), model.lookup(p)); break;
+            case 1: compare("differing(" + a + ", " + b + ")" + run, x.differing(a, b), model.differing(a, b)); break;
             case 2:
-                due("difference(" + a + ", " + b + ", " + i + ")" + run, x.difference(a, b, i),
+                compare("difference(" + a + ", " + b + ", " + i + ")" + run, x.difference(a, b, i),
                     model.difference(a, b, i));
                 break;
-            case 3: due("changed(" + a + ")" + run, x.changed(a), model.changed(a)); break;
-            case 4: due("alike(" + e + ", " + f + ")" + run, x.alike(e, f), model.alike(e, f)); break;
-            case 5: due("twins(" + e + ")" + run, x.twins(e), model.twins(e)); break;
-            default: due("repeated(" + a + ")" + run, x.repeated(a), model.repeated(a));
+            case 3: compare("changed(" + a + ")" + run, x.changed(a), model.changed(a)); break;
+            case 4: compare("alike(" + e + ", " + f + ")" + run, x.alike(e, f), model.alike(e, f)); break;
+            case 5: compare("twins(" + e + ")" + run, x.twins(e), model.twins(e)); break;
+            default: compare("repeated(" + a + ")" + run, x.repeated(a), model.repeated(a));
         }
     }
 
@@ -332,10 +328,10 @@ public final class ModelTest {
         int e = random.nextInt(26) - 1;
         Node node = model.at(e);
         switch (random.nextInt(4)) {
-            case 0: due("entries()" + run, x.entries(), model.entries()); break;
-            case 1: due("kind(" + e + ")" + run, x.kind(e), node == null ? -1 : node.file ? 1 : 0); break;
-            case 2: due("content(" + e + ")" + run, x.content(e), node == null ? 0 : node.content); break;
-            default: due("path(" + e + ")" + run, x.path(e), node == null ? -1 : node.path());
+            case 0: compare("entries()" + run, x.entries(), model.entries()); break;
+            case 1: compare("kind(" + e + ")" + run, x.kind(e), node == null ? -1 : node.file ? 1 : 0); break;
+            case 2: compare("content(" + e + ")" + run, x.content(e), node == null ? 0 : node.content); break;
+            default: compare("path(" + e + ")" + run, x.path(e), node == null ? -1 : node.path());
         }
     }
 
@@ -349,15 +345,9 @@ public final class ModelTest {
 
     private static void metAll(String method, int refusals) {
         for (int refusal = 1; refusal <= refusals; refusal++) {
-            if (!met.contains(method + " -" + refusal)) {
-                wrong++;
-                System.out.println("no run met " + method + " answering -" + refusal);
-            }
+            if (!met.contains(method + " -" + refusal)) fail("no run met " + method + " answering -" + refusal);
         }
-        if (!met.contains(method + " done")) {
-            wrong++;
-            System.out.println("no run met " + method + " being done");
-        }
+        if (!met.contains(method + " done")) fail("no run met " + method + " being done");
     }
 
     public static void main(String[] args) {
@@ -379,7 +369,6 @@ public final class ModelTest {
         metAll("changed", 1);
         metAll("alike", 1);
         metAll("twins", 1);
-        System.out.println(wrong == 0 ? "all answers are as due" : wrong + " answers are not as due");
-        if (wrong != 0) System.exit(1);
+        end();
     }
 }

@@ -4,19 +4,9 @@ import java.lang.reflect.Method;
 import java.lang.reflect.Modifier;
 import java.util.TreeSet;
 
-/** For each promise its ordinary answers, the edges that the document names, and wrong inputs. */
-public final class PromiseTest {
-    private static final int[] BAD_ENTRIES = {-1, 24, 25, 23, Integer.MIN_VALUE, Integer.MAX_VALUE};
-    private static final int[] BAD_NAMES = {-1, 8, Integer.MIN_VALUE, Integer.MAX_VALUE};
-    private static final int[] BAD_SNAPSHOTS = {-1, 3, Integer.MIN_VALUE, Integer.MAX_VALUE};
-    private static int wrong = 0;
-
-    private static void due(String what, long got, long want) {
-        if (got != want) {
-            wrong++;
-            System.out.println(what + " answered " + got + ", due is " + want);
-        }
-    }
+/** For each promise its ordinary answers, with some edges and wrong inputs; and the public face of the class. */
+public final class PromiseTest extends Checks {
+    private static final int[] BAD_ENTRIES = {-1, 24, 25, 23, LEAST, MOST};
 
     public static void main(String[] args) {
         face();
@@ -41,31 +31,7 @@ public final class PromiseTest {
         repeated();
         questionsChangeNothing();
         objectsAreApart();
-        System.out.println(wrong == 0 ? "all answers are as due" : wrong + " answers are not as due");
-        if (wrong != 0) {
-            System.exit(1);
-        }
-    }
-
-    /** A chain of directories 1 .. depth, all with the same name. */
-    private static TreeHasher chain(int depth, int name) {
-        TreeHasher x = new TreeHasher();
-        for (int entry = 1; entry <= depth; entry++) {
-            due("chain", x.directory(entry - 1, name), entry);
-        }
-        return x;
-    }
-
-    /** 24 entries: directories 1, 2 and 3, with files 4 .. 11, 12 .. 19 and 20 .. 23. */
-    private static TreeHasher full() {
-        TreeHasher x = new TreeHasher();
-        for (int name = 0; name < 3; name++) {
-            due("full", x.directory(0, name), name + 1);
-        }
-        for (int entry = 4; entry < 24; entry++) {
-            due("full", x.file(1 + (entry - 4) / 8, (entry - 4) % 8, entry), entry);
-        }
-        return x;
+        end();
     }
 
     private static void face() {
@@ -137,7 +103,7 @@ public final class PromiseTest {
             due("2: -1 before -3", x.directory(bad, 8), -1);
             due("3: parent " + bad, x.file(bad, 0, 1), -1);
         }
-        for (int bad : BAD_NAMES) {
+        for (int bad : NOT_NAMES) {
             due("2: name " + bad, x.directory(0, bad), -3);
             due("3: name " + bad, x.file(0, bad, 1), -3);
             due("2: -2 before -3", x.directory(6, bad), -2);
@@ -157,10 +123,10 @@ public final class PromiseTest {
 
     private static void file() {
         TreeHasher x = new TreeHasher();
-        due("3: least int", x.file(0, 0, Integer.MIN_VALUE), 1);
-        due("3: greatest int", x.file(0, 1, Integer.MAX_VALUE), 2);
-        due("3: content", x.content(1), Integer.MIN_VALUE);
-        due("3: content", x.content(2), Integer.MAX_VALUE);
+        due("3: least int", x.file(0, 0, LEAST), 1);
+        due("3: greatest int", x.file(0, 1, MOST), 2);
+        due("3: content", x.content(1), LEAST);
+        due("3: content", x.content(2), MOST);
         due("3: kind", x.kind(2), 1);
         due("3: path", x.path(2), 2);
         due("3: remove", x.remove(1), 1);
@@ -206,8 +172,8 @@ public final class PromiseTest {
         due("4: content", x.content(1), -7);
         due("4: no other file", x.content(3), 5);
         due("4: the same again", x.write(1, -7), 0);
-        due("4: least int", x.write(1, Integer.MIN_VALUE), 0);
-        due("4: content", x.content(1), Integer.MIN_VALUE);
+        due("4: least int", x.write(1, LEAST), 0);
+        due("4: content", x.content(1), LEAST);
         due("4: directory", x.write(2, 4), -2);
         due("4: directory keeps none", x.content(2), 0);
         due("4: root", x.write(0, 4), -2);
@@ -282,7 +248,7 @@ public final class PromiseTest {
         }
         due("6: parent a file", x.move(1, 6, 5), -2);
         due("6: -2 before -4", x.move(6, 6, 5), -2);
-        for (int bad : BAD_NAMES) {
+        for (int bad : NOT_NAMES) {
             due("6: name " + bad, x.move(1, 0, bad), -3);
             due("6: -3 before -4", x.move(1, 1, bad), -3);
         }
@@ -361,8 +327,8 @@ public final class PromiseTest {
         due("10: 9^5 above a path", x.lookup(59049 + 8), -1);
         due("10: negative", x.lookup(-1), -1);
         due("10: negative of a path", x.lookup(-8), -1);
-        due("10: least int", x.lookup(Integer.MIN_VALUE), -1);
-        due("10: greatest int", x.lookup(Integer.MAX_VALUE), -1);
+        due("10: least int", x.lookup(LEAST), -1);
+        due("10: greatest int", x.lookup(MOST), -1);
         due("10: no such path", x.lookup(7), -1);
     }
 
@@ -378,7 +344,7 @@ public final class PromiseTest {
         due("12: save over", x.save(0), 0);
         due("12: now empty", x.changed(0), 0);
         x.file(0, 0, 1);
-        for (int bad : BAD_SNAPSHOTS) {
+        for (int bad : NOT_SNAPSHOTS) {
             due("12: snapshot " + bad, x.save(bad), -1);
         }
         for (int s = 0; s < 3; s++) {
@@ -415,7 +381,7 @@ public final class PromiseTest {
         due("13: no changes", x.changed(0), 0);
         due("13: the next number", x.file(0, 4, 1), 8);
         due("13: the snapshot stays", x.changed(0), 1);
-        for (int bad : BAD_SNAPSHOTS) {
+        for (int bad : NOT_SNAPSHOTS) {
             due("13: snapshot " + bad, x.restore(bad), -1);
         }
         due("13: refusal changes nothing", x.entries(), 9);
@@ -448,35 +414,19 @@ public final class PromiseTest {
             due("15: difference " + i, x.difference(0, 1, i), paths[i]);
             due("15: the other way " + i, x.difference(1, 0, i), paths[i]);
         }
-        int[] noSuch = {-1, 5, 6, Integer.MIN_VALUE, Integer.MAX_VALUE};
+        int[] noSuch = {-1, 5, 6, LEAST, MOST};
         for (int i : noSuch) {
             due("15: i = " + i, x.difference(0, 1, i), -2);
         }
         due("14: with itself", x.differing(1, 1), 0);
         due("15: with itself", x.difference(1, 1, 0), -2);
         due("14: with the empty one", x.differing(2, 0), 5);
-        for (int bad : BAD_SNAPSHOTS) {
+        for (int bad : NOT_SNAPSHOTS) {
             due("14: a = " + bad, x.differing(bad, 0), -1);
             due("14: b = " + bad, x.differing(0, bad), -1);
             due("15: a = " + bad, x.difference(bad, 0, 0), -1);
             due("15: b = " + bad, x.difference(0, bad, -1), -1);
         }
-        mostDifferences();
-    }
-
-    /** Two snapshots of 23 paths each that share none of them. */
-    private static void mostDifferences() {
-        TreeHasher x = full();
-        x.save(0);
-        for (int entry = 1; entry < 4; entry++) {
-            x.move(entry, 0, entry + 4);
-        }
-        x.save(1);
-        due("14: 46 paths", x.differing(0, 1), 46);
-        due("15: the first", x.difference(0, 1, 0), 1);
-        due("15: the fourth", x.difference(0, 1, 3), 6);
-        due("15: the last", x.difference(0, 1, 45), 76);
-        due("15: no more", x.difference(0, 1, 46), -2);
     }
 
     private static void changed() {
@@ -499,7 +449,7 @@ public final class PromiseTest {
         due("16: a path more", x.changed(1), 2);
         x.move(1, 0, 7);
         due("16: moved", x.changed(1), 5);
-        for (int bad : BAD_SNAPSHOTS) {
+        for (int bad : NOT_SNAPSHOTS) {
             due("16: snapshot " + bad, x.changed(bad), -1);
         }
         // Other numbers for the same paths are no change.
@@ -600,13 +550,13 @@ public final class PromiseTest {
         x.save(1);
         due("19: the least", x.repeated(1), -5);
         due("19: another snapshot", x.repeated(0), 7);
-        x.file(2, 5, Integer.MIN_VALUE);
-        x.file(1, 5, Integer.MIN_VALUE);
+        x.file(2, 5, LEAST);
+        x.file(1, 5, LEAST);
         x.save(2);
-        due("19: least int", x.repeated(2), Integer.MIN_VALUE);
+        due("19: least int", x.repeated(2), LEAST);
         x.restore(1);
-        due("19: restored", x.repeated(2), Integer.MIN_VALUE);
-        for (int bad : BAD_SNAPSHOTS) {
+        due("19: restored", x.repeated(2), LEAST);
+        for (int bad : NOT_SNAPSHOTS) {
             due("19: snapshot " + bad, x.repeated(bad), 0);
         }
         // Directories have no content, not even 0.

@@ -2,23 +2,9 @@
  * "In every method the tests are made in the order named": each two refusals of a method that can hold at once, and
  * the rows of three. Two that can't hold at once have a call that would look like both to a careless program.
  */
-public final class RefusalOrderTest {
-    private static final int LEAST = Integer.MIN_VALUE;
-    private static final int MOST = Integer.MAX_VALUE;
-    private static final int[] NOT_ENTRIES = {-1, 24, LEAST, MOST};
-    private static final int[] NOT_NAMES = {-1, 8, LEAST, MOST};
-    private static final int[] NOT_SNAPSHOTS = {-1, 3, LEAST, MOST};
-    private static int wrong = 0;
-
-    private static void due(String what, long got, long want) {
-        if (got != want) {
-            wrong++;
-            System.out.println(what + " answered " + got + ", due is " + want);
-        }
-    }
-
+public final class RefusalOrderTest extends Checks {
     public static void main(String[] args) {
-        for (boolean asFile : new boolean[] {false, true}) {
+        for (boolean asFile : KINDS) {
             makeBadParent(asFile);
             makeBelowFile(asFile);
             makeBadName(asFile);
@@ -35,10 +21,7 @@ public final class RefusalOrderTest {
         moveBelowItself();
         moveOntoAnother();
         difference();
-        System.out.println(wrong == 0 ? "all answers are as due" : wrong + " answers are not as due");
-        if (wrong != 0) {
-            System.exit(1);
-        }
+        end();
     }
 
     /** Directories 1 .. 5 below each other, 6 a file at depth 5, 7 a file of the root; names 0, 1 and 7. */
@@ -59,10 +42,6 @@ public final class RefusalOrderTest {
             due("filling the tree", x.directory((entry - 8) / 6, 1 + (entry - 8) % 6), entry);
         }
         return x;
-    }
-
-    private static int make(TreeHasher x, boolean asFile, int parent, int name) {
-        return asFile ? x.file(parent, name, 5) : x.directory(parent, name);
     }
 
     private static String call(boolean asFile) {

@@ -8,19 +8,14 @@ import java.util.function.ToIntFunction;
  * "No question changes anything. A refused call changes nothing.": in an empty, a common, a deep and a full tree each
  * call, with good arguments and bad, and after each question and each refused call everything answers as before.
  */
-public final class UnchangedTest {
-    private static final int LEAST = Integer.MIN_VALUE;
-    private static final int MOST = Integer.MAX_VALUE;
+public final class UnchangedTest extends Checks {
     private static final int[] ENTRIES = withEnds(24);
     private static final int[] SOME_ENTRIES = {LEAST, -1, 0, 1, 2, 3, 4, 5, 6, 7, 11, 19, 22, 23, 24, MOST};
     private static final int[] NAMES = withEnds(8);
     private static final int[] SNAPSHOTS = withEnds(3);
-    private static final int[] CONTENTS = {LEAST, -1, 0, 99, MOST};
     private static final int[] PLACES = {LEAST, -1, 0, 1, 2, 5, 22, 23, 24, 45, 46, 47, MOST};
     private static final int[] PATHS = {LEAST, -8, -1, 0, 1, 2, 3, 8, 9, 10, 15, 80, 91, 820, 7381, 7382, 59048, 59049,
         MOST};
-    private static final int SHOWN = 20;
-    private static int wrong = 0;
     // Which refusals the calls have met: a refusal that none meets would not be tested here.
     private static final TreeSet<String> met = new TreeSet<>();
 
@@ -33,13 +28,6 @@ public final class UnchangedTest {
         }
         values[count + 3] = MOST;
         return values;
-    }
-
-    private static void fail(String what) {
-        wrong++;
-        if (wrong <= SHOWN) {
-            System.out.println(what);
-        }
     }
 
     private final String scene;
@@ -59,13 +47,10 @@ public final class UnchangedTest {
         new UnchangedTest("empty tree", TreeHasher::new).all();
         new UnchangedTest("common tree", UnchangedTest::common).all();
         new UnchangedTest("deep tree", UnchangedTest::deep).all();
-        new UnchangedTest("full tree", UnchangedTest::full).all();
+        new UnchangedTest("full tree", UnchangedTest::fullAndSaved).all();
         new UnchangedTest("emptied tree", UnchangedTest::emptied).all();
         metAll();
-        System.out.println(wrong == 0 ? "all answers are as due" : wrong + " answers are not as due");
-        if (wrong != 0) {
-            System.exit(1);
-        }
+        end();
     }
 
     /** Two directories and files with the same contents, other trees in the snapshots, and a number left free. */
@@ -109,7 +94,7 @@ public final class UnchangedTest {
     }
 
     /** 24 entries; the snapshots have 23 paths, 23 others, and none. */
-    private static TreeHasher full() {
+    private static TreeHasher fullAndSaved() {
         TreeHasher x = new TreeHasher();
         for (int name = 0; name < 3; name++) {
             x.directory(0, name + 4);
@@ -128,7 +113,7 @@ public final class UnchangedTest {
 
     /** What the full tree was is in snapshot 1 only, and the tree has none of it. */
     private static TreeHasher emptied() {
-        TreeHasher x = full();
+        TreeHasher x = fullAndSaved();
         x.restore(2);
         x.save(0);
         return x;
